@@ -201,19 +201,19 @@ public final class TwoTimes {
         return entries;
     }
 
-    private int enterPieces(int source, int target, int from, int to, int more) {
+    private int enterPieces(int fromThing, int toThing, int from, int to, int more) {
         // The new entries may change the very pieces they are made from, so
         // the pieces are read as of the number at which the call began.
-        int start = entries;
-        int count = countPieces(start, source, from, to);
-        if (start + count > MOST_ENTRIES) {
+        int begin = entries;
+        int count = countPieces(begin, fromThing, from, to);
+        if (begin + count > MOST_ENTRIES) {
             return FULL;
         }
         for (int day = from; day < to; day++) {
-            if (startsPiece(start, source, day, from)) {
-                int end = endOfPiece(start, source, day, to);
-                int index = sourceOf(start, source, day);
-                append(target, day, end, true, entryValue[index] + more);
+            if (startsPiece(begin, fromThing, day, from)) {
+                int source = sourceOf(begin, fromThing, day);
+                int end = endOfPiece(begin, fromThing, day, to);
+                append(toThing, day, end, true, entryValue[source] + more);
             }
         }
         return count;

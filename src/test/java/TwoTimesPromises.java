@@ -186,7 +186,8 @@ public final class TwoTimesPromises {
         due("4: inside one piece", x.raise(0, days(25, 26), -12), 1);
         due("4: to zero", x.at(8, 0, 25), 0);
         due("4: beside all pieces", x.raise(0, days(10, 20), 1), 0);
-        due("4: ends where a piece begins", x.raise(0, days(60, 100), 1), 0);
+        due("4: begins where the last piece ends", x.raise(0, days(60, 100), 1), 0);
+        due("4: ends where a piece begins", x.raise(0, days(45, 50), 1), 0);
         due("4: by zero is an entry too", x.raise(0, days(0, 5), 0), 1);
         due("4: by zero changes nothing", x.changed(8, 9, 0), 0);
         due("4: another thing", x.pieces(9, 1), 0);
@@ -200,6 +201,9 @@ public final class TwoTimesPromises {
         due("4: steps", x.raise(1, ALL, 1), 3);
         duePieces("4: steps", x, 6, 1, 0, 10, 2, 10, 20, 3, 20, 30, 4);
         duePieces("4: steps, first entry", x, 4, 1, 0, 20, 2, 20, 30, 3);
+        due("4: ends where another piece begins", x.raise(1, days(5, 10), 1), 1);
+        due("4: no entry for the piece behind", x.pieces(8, 1), TwoTimes.BAD_ENTRY);
+        duePieces("4: the piece behind", x, 7, 1, 0, 5, 2, 5, 20, 3, 20, 30, 4);
         TwoTimes wrap = new TwoTimes();
         wrap.say(0, ALL, Integer.MAX_VALUE);
         due("4: wraps", wrap.raise(0, ALL, 1), 1);
