@@ -51,15 +51,23 @@ public final class TwoTimesAgainstModel {
             tables.add(table);
         }
 
-        int enterOne(int thing, int days, Integer value) {
+        /** 0 if thing and packed days are good, else the answer that is due. */
+        static int refusalOfDays(int thing, int days) {
             if (thing < 0 || thing > 5) {
                 return TwoTimes.BAD_THING;
             }
             int from = days & 127;
             int to = (days >> 7) & 127;
-            if (from >= to || to > 100) {
-                return TwoTimes.BAD_DAYS;
+            return from >= to || to > 100 ? TwoTimes.BAD_DAYS : 0;
+        }
+
+        int enterOne(int thing, int days, Integer value) {
+            int refusal = refusalOfDays(thing, days);
+            if (refusal != 0) {
+                return refusal;
             }
+            int from = days & 127;
+            int to = (days >> 7) & 127;
             if (last() == 40) {
                 return TwoTimes.FULL;
             }
@@ -78,14 +86,12 @@ public final class TwoTimesAgainstModel {
         }
 
         int raise(int thing, int days, int more) {
-            if (thing < 0 || thing > 5) {
-                return TwoTimes.BAD_THING;
+            int refusal = refusalOfDays(thing, days);
+            if (refusal != 0) {
+                return refusal;
             }
             int from = days & 127;
             int to = (days >> 7) & 127;
-            if (from >= to || to > 100) {
-                return TwoTimes.BAD_DAYS;
-            }
             List<Piece> parts = new ArrayList<>();
             for (Piece piece : pieces(last(), thing)) {
                 int partFrom = Math.max(from, piece.from);
